@@ -357,6 +357,7 @@ public final class SequenceBench {
 
     // ---- behind the face
 
+    /** Sets are numbers: bit i stands for cylinder i, or for step i. */
     private static boolean holds(int set, int member) {
         return (set >> member & 1) == 1;
     }
@@ -456,7 +457,7 @@ public final class SequenceBench {
             if (shortened) {
                 continue;
             }
-            if (snapshot.matches(trial)) {
+            if (sinceSnapshot > 0 && snapshot.matches(trial)) {
                 left = left % sinceSnapshot;
                 shortened = true;
             } else if (sinceSnapshot >= span) {
@@ -481,7 +482,6 @@ public final class SequenceBench {
 
         void clear() {
             count = 0;
-            groupCount = 0;
             Arrays.fill(plus, 0);
             Arrays.fill(minus, 0);
             Arrays.fill(pauses, 0);
@@ -573,6 +573,11 @@ public final class SequenceBench {
                     groupCount++;
                 }
             }
+        }
+
+        /** -1 if there is no such group. */
+        int firstStepOf(int group) {
+            return group >= 0 && group < groupCount ? cuts[group] : -1;
         }
 
         private void nameGroups() {
@@ -771,12 +776,12 @@ public final class SequenceBench {
 
         private void decideCascade(Sequence sequence, int ready) {
             int next = active + 1 < sequence.groupCount ? active + 1 : 0;
-            if (holds(ready, sequence.cuts[next])) {
+            if (holds(ready, sequence.firstStepOf(next))) {
                 active = next;
             }
+            int first = sequence.firstStepOf(active);
             for (int step = 0; step < sequence.count; step++) {
-                boolean first = step == sequence.cuts[active];
-                if (sequence.groupOfStep[step] == active && (first || holds(ready, step))) {
+                if (sequence.groupOfStep[step] == active && (step == first || holds(ready, step))) {
                     switchOn(sequence, step);
                 }
             }

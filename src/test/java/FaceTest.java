@@ -39,7 +39,7 @@ public final class FaceTest {
                         names.contains(method.getName()), false);
             }
         }
-        lookAtTheRest();
+        lookAtTheRest(names);
         Script.end();
     }
 
@@ -54,7 +54,7 @@ public final class FaceTest {
         return line.append(')').toString();
     }
 
-    private static void lookAtTheRest() {
+    private static void lookAtTheRest(Set<String> names) {
         Script.due("public and final", SequenceBench.class.getModifiers(), Modifier.PUBLIC | Modifier.FINAL);
         Constructor<?>[] constructors = SequenceBench.class.getDeclaredConstructors();
         Script.due("constructors", constructors.length, 1);
@@ -64,6 +64,9 @@ public final class FaceTest {
             Script.due(field + " is private", Modifier.isPrivate(field.getModifiers()), true);
         }
         for (Class<?> inside : SequenceBench.class.getDeclaredClasses()) {
+            for (Method method : inside.getDeclaredMethods()) {
+                Script.due(method + " bears a name of the face", names.contains(method.getName()), false);
+            }
             Script.due(inside + " is static", Modifier.isStatic(inside.getModifiers()), true);
             Script.due(inside + " is not public", Modifier.isPublic(inside.getModifiers()), false);
         }
