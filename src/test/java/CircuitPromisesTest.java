@@ -46,7 +46,8 @@ public final class CircuitPromisesTest {
     private static void groups() {
         Script.run("promise 12", "read A+B+B-A- = 4; groups() = 2; read A+A-A+A- = 4; groups() = 4",
                 "read A+A-B+B-A+A- = 6; groups() = 4; read A+B+C+A-B-C- = 6; groups() = 2; read A+T3A- = 3",
-                "groups() = 2; read (A+B+)(A-B-) = 2; groups() = 2", "read " + "A+A-".repeat(8) + " = 16; groups() = 16");
+                "groups() = 2; read (A+B+)(A-B-) = 2; groups() = 2",
+                "read " + "A+A-".repeat(8) + " = 16; groups() = 16");
         Script.run("promise 12, a division that does not begin at step 0", "read A+B+A-C+B-C- = 6; groups() = 2");
         Script.run("promise 12 without a sequence", "groups() = " + ISE, "cut(0) = " + INDEX, "groupOf(0) = " + INDEX);
     }

@@ -183,16 +183,13 @@ public final class TextPromisesTest {
         Script.run("promise 4, the text stays", "read A+ = -3; readSequence() = -3; type(65) = 3; type(45) = 4",
                 "readSequence() = 2; errorKind() = 0");
         Script.run("promise 4, the text is empty then", "read A+A- = 2; clearText() = 0; read B+B- = 2; moves(0) = 2");
-        String before = "setMethod(0); setStroke(0, 5) = 3; setFault(1, 0, true); read A+T4B+A-B- = 5; ticks(7)";
         SequenceBench bench = new SequenceBench();
-        for (String call : before.split("; ")) {
-            if (!call.startsWith("read")) {
-                Script.answer(bench, call);
-            } else {
-                "A+T4B+A-B-".chars().forEach(bench::type);
-                bench.readSequence();
-            }
-        }
+        "A+T4B+A-B-".chars().forEach(bench::type);
+        bench.readSequence();
+        bench.setMethod(0);
+        bench.setStroke(0, 5);
+        bench.setFault(1, 0, true);
+        bench.ticks(7);
         String state = State.of(bench);
         "A+x".chars().forEach(bench::type);
         Script.due("promise 4, an error's answer", bench.readSequence(), -3);
