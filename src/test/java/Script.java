@@ -1,26 +1,129 @@
 import java.lang.reflect.InvocationTargetException;
 import java.lang.reflect.Method;
+import java.util.ArrayList;
+import java.util.List;
 
 /**
  * Runs calls that are written as in the document's examples, each run on a new bench:
  * "type(65) = 1; ticks(1) = throws IllegalStateException". The row "read TEXT = 4" types the text
  * and checks what readSequence() answers; a row without "=" is called, and its answer is not looked at.
- * Where a row wants an exception, the state is looked at before and behind the call too.
+ * INDEX, IAE and ISE stand for the three exceptions. Where a row wants an exception, all that later
+ * calls show is compared with a run without this row.
  */
 final class Script {
+    /** The document promises nothing beyond it, so no test may look there. */
+    private static final int MOST_CALLS = 512;
     private static int wrong = 0;
     private static int rows = 0;
+
+    /** A bench that counts its calls. */
+    private static final class Counted {
+        final SequenceBench bench = new SequenceBench();
+        int calls = 0;
+
+        String answer(String call) {
+            calls++;
+            if (calls > MOST_CALLS) {
+                throw new IllegalStateException("more than 512 calls: " + call);
+            }
+            return Script.answer(bench, call);
+        }
+
+        String row(String call) {
+            if (!call.startsWith("read ")) {
+                return answer(call);
+            }
+            for (String typing : rowsOf(typed(call.substring(5)))) {
+                answer(typing);
+            }
+            return answer("readSequence()");
+        }
+    }
 
     private Script() {
     }
 
     static void run(String title, String... parts) {
-        SequenceBench bench = new SequenceBench();
-        for (String row : String.join(";", parts).split(";")) {
-            if (!row.isBlank()) {
-                check(title, bench, row.trim());
+        Counted bench = new Counted();
+        StringBuilder before = new StringBuilder();
+        for (String row : rowsOf(String.join(";", parts))) {
+            String call = callOf(row);
+            String want = wantOf(row);
+            String got = bench.row(call);
+            if (want != null) {
+                due(title + ": " + call, got, want);
+            }
+            if (want != null && want.startsWith("throws ")) {
+                unchanged(title, before.toString(), call);
+            } else {
+                before.append(call).append(';');
             }
         }
+    }
+
+    /** Behind the set-up, the calls change nothing that a later call shows, but for the looks left out. */
+    static void unchanged(String title, String setUp, String calls, String... leftOut) {
+        for (String look : Looks.all()) {
+            if (!List.of(leftOut).contains(look)) {
+                due(title + ": behind " + calls, answers(setUp + ";" + calls, look), answers(setUp, look));
+            }
+        }
+    }
+
+    private static String answers(String setUp, String look) {
+        Counted bench = new Counted();
+        for (String row : rowsOf(setUp)) {
+            bench.row(callOf(row));
+        }
+        StringBuilder all = new StringBuilder();
+        for (String row : rowsOf(look)) {
+            all.append(row).append(" = ").append(bench.row(row)).append("; ");
+        }
+        return all.toString();
+    }
+
+    private static List<String> rowsOf(String script) {
+        List<String> found = new ArrayList<>();
+        for (String row : script.split(";")) {
+            if (!row.isBlank()) {
+                found.add(row.trim());
+            }
+        }
+        return found;
+    }
+
+    private static String callOf(String row) {
+        int sign = row.lastIndexOf(" = ");
+        return sign < 0 ? row : row.substring(0, sign).trim();
+    }
+
+    private static String wantOf(String row) {
+        int sign = row.lastIndexOf(" = ");
+        String want = sign < 0 ? "" : row.substring(sign + 3).trim();
+        switch (want) {
+            case "":
+                return null;
+            case "INDEX":
+                return "throws IndexOutOfBoundsException";
+            case "IAE":
+                return "throws IllegalArgumentException";
+            case "ISE":
+                return "throws IllegalStateException";
+            default:
+                return want;
+        }
+    }
+
+    /** The text is a sequence of so many steps. */
+    static void reads(String title, String text, int steps) {
+        run(title + ", " + text, typed(text), "readSequence() = " + steps, "errorKind() = 0; steps() = " + steps,
+                "clearText() = 0");
+    }
+
+    /** The text has this error. */
+    static void refuses(String title, String text, int kind, int position) {
+        run(title + ", " + text, typed(text), "readSequence() = " + (-1 - position), "errorKind() = " + kind,
+                "steps() = 0; clearText() = " + text.length());
     }
 
     /** The same row several times, for a script. */
@@ -30,11 +133,11 @@ final class Script {
 
     /** Types a text without reading it. */
     static String typed(String text) {
-        StringBuilder rows = new StringBuilder();
+        StringBuilder typing = new StringBuilder();
         for (char c : text.toCharArray()) {
-            rows.append("type(").append((int) c).append(");");
+            typing.append("type(").append((int) c).append(");");
         }
-        return rows.toString();
+        return typing.toString();
     }
 
     static void due(String title, Object got, Object want) {
@@ -52,29 +155,7 @@ final class Script {
         }
     }
 
-    private static void check(String title, SequenceBench bench, String row) {
-        int sign = row.lastIndexOf(" = ");
-        String call = sign < 0 ? row : row.substring(0, sign).trim();
-        String want = sign < 0 ? null : row.substring(sign + 3).trim();
-        boolean refused = want != null && want.startsWith("throws ");
-        String before = refused ? State.of(bench) : "";
-        String got = call.startsWith("read ") ? read(bench, call.substring(5)) : answer(bench, call);
-        if (want != null) {
-            due(title + ": " + call, got, want);
-        }
-        if (refused) {
-            due(title + ": state behind " + call, State.of(bench), before);
-        }
-    }
-
-    private static String read(SequenceBench bench, String text) {
-        for (char c : text.toCharArray()) {
-            bench.type(c);
-        }
-        return String.valueOf(bench.readSequence());
-    }
-
-    static String answer(SequenceBench bench, String call) {
+    private static String answer(SequenceBench bench, String call) {
         String name = call.substring(0, call.indexOf('('));
         String inside = call.substring(call.indexOf('(') + 1, call.lastIndexOf(')')).trim();
         String[] given = inside.isEmpty() ? new String[0] : inside.split("\\s*,\\s*");

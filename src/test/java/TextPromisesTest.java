@@ -51,13 +51,11 @@ public final class TextPromisesTest {
     }
 
     private static void right(String text, int steps) {
-        Script.run("promise 4, " + text, "read " + text + " = " + steps, "errorKind() = 0; steps() = " + steps,
-                "clearText() = 0");
+        Script.reads("promise 4", text, steps);
     }
 
     private static void refused(String text, int kind, int position) {
-        Script.run("promise 4, " + text, Script.typed(text), "readSequence() = " + (-1 - position),
-                "errorKind() = " + kind, "steps() = 0; clearText() = " + text.length());
+        Script.refuses("promise 4", text, kind, position);
     }
 
     private static void rightTexts() {
@@ -183,18 +181,9 @@ public final class TextPromisesTest {
         Script.run("promise 4, the text stays", "read A+ = -3; readSequence() = -3; type(65) = 3; type(45) = 4",
                 "readSequence() = 2; errorKind() = 0");
         Script.run("promise 4, the text is empty then", "read A+A- = 2; clearText() = 0; read B+B- = 2; moves(0) = 2");
-        SequenceBench bench = new SequenceBench();
-        "A+T4B+A-B-".chars().forEach(bench::type);
-        bench.readSequence();
-        bench.setMethod(0);
-        bench.setStroke(0, 5);
-        bench.setFault(1, 0, true);
-        bench.ticks(7);
-        String state = State.of(bench);
-        "A+x".chars().forEach(bench::type);
-        Script.due("promise 4, an error's answer", bench.readSequence(), -3);
-        Script.due("promise 4, an error changes only errorKind()", State.of(bench),
-                state.replace(" error 0 ", " error 1 "));
+        Script.unchanged("promise 4, an error changes only errorKind()",
+                "setMethod(0); setStroke(0, 5); read A+T4B+A-B- = 5; setFault(1, 0, true); ticks(7); "
+                + Script.typed("A+x"), "readSequence()", Looks.ERROR_KIND);
         Script.run("promise 4, to rest, and the settings stay",
                 "read A+A- = 2; setMethod(2) = 1; setStroke(0, 7) = 3; setFault(0, 3, true) = false",
                 "setStart(false) = true; setStart(true) = false; ticks(9) = 1; setStart(false) = true",

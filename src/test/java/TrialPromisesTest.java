@@ -87,25 +87,13 @@ public final class TrialPromisesTest {
 
     private static void nothingIsChanged() {
         for (int method = 0; method < 3; method++) {
-            SequenceBench bench = new SequenceBench();
-            "A+T4(B+C+)(A-B-)C-".chars().forEach(bench::type);
-            bench.readSequence();
-            bench.setMethod(method);
-            bench.setStroke(1, 6);
-            bench.setFault(2, 4, true);
-            bench.ticks(25);
-            bench.setStart(false);
-            "A+".chars().forEach(bench::type);
-            String before = State.of(bench);
+            String setUp = "setMethod(" + method + "); setStroke(1, 6); read A+T4(B+C+)(A-B-)C- = 5;"
+                    + "setFault(2, 4, true); ticks(25); setStart(false); type(65); type(43)";
             String[] calls = {"works(0)", "works(1)", "works(2)", "cycleTime(0)", "cycleTime(1)", "cycleTime(2)",
                 "cheapest()", "effect(0, 0, 77)", "effect(1, 4, 2000)", "suspect(0)", "suspect(29)", "clashes()"};
             for (String call : calls) {
-                Script.answer(bench, call);
-                Script.due("a trial changes nothing: " + call, State.of(bench), before);
+                Script.unchanged("a trial changes nothing", setUp, call);
             }
-            Script.due("a trial leaves the text alone", bench.clearText(), 2);
-            Script.due("a trial leaves the stroke alone", bench.setStroke(1, 3), 6);
-            Script.due("a trial leaves the method alone", bench.setMethod(1), method);
         }
     }
 
