@@ -63,9 +63,14 @@ final class Script {
 
     /** Behind the set-up, the calls change nothing that a later call shows, but for the looks left out. */
     static void unchanged(String title, String setUp, String calls, String... leftOut) {
+        same(title + ": behind " + calls, setUp + ";" + calls, setUp, leftOut);
+    }
+
+    /** Two runs lead to the same, as far as later calls show it. */
+    static void same(String title, String one, String other, String... leftOut) {
         for (String look : Looks.all()) {
             if (!List.of(leftOut).contains(look)) {
-                due(title + ": behind " + calls, answers(setUp + ";" + calls, look), answers(setUp, look));
+                due(title, answers(one, look), answers(other, look));
             }
         }
     }
