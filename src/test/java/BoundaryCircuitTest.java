@@ -81,6 +81,8 @@ public final class BoundaryCircuitTest {
         Script.run("Counts the moves that clash", "read A+A- = 2; clashes() = 0; read A+B+A-B- = 4; clashes() = 0",
                 "read A+B+B-A- = 4; clashes() = 2; read (A+B+)C+C-(A-B-) = 4; clashes() = 3",
                 "read A+B+C+D+E+F+F-E-D-C-B-A- = 12; clashes() = 10; clash(5, 5) = -1; clash(11, 0) = -1");
+        Script.run("Counts the moves that clash, with step 0 too", "read A+A-B+B- = 4; clash(1, 0) = 0; clashes() = 2");
+        Script.run("16 steps without a clash", "read " + SIXTEEN + " = 16; clashes() = 0; clash(0, 0) = -1; clash(15, 0) = -1");
         Script.run("the smallest step j", "read A+B+B-C+B+B-C-A- = 8; clash(2, 1) = 1; clash(5, 1) = 1; clash(0, 0) = 7");
         Script.run("-1 if there is none, or the cylinder does not move in this step", "read A+B+B-A- = 4",
                 "clash(3, 0) = -1; clash(0, 1) = -1; clash(2, 0) = -1; clash(0, 5) = -1; clash(3, 5) = -1");
@@ -105,6 +107,8 @@ public final class BoundaryCircuitTest {
         Script.run("the one whose first cut is at the smallest step", "read T1A+A- = 3; cut(0) = 0; cut(1) = 2",
                 "read A+A-T1 = 3; cut(0) = 0; cut(1) = 1; read T9B+B-A+A- = 5; groups() = 2; cut(0) = 2; cut(1) = 4",
                 "read A+T1B+A-B-T1 = 6; cut(0) = 0; cut(1) = 3");
+        Script.run("the steps before the first cut follow the last ones", "read B+A+A-C+B-C- = 6; groups() = 2; cut(0) = 2",
+                "cut(1) = 5; groupOf(0) = 1; groupOf(1) = 1; groupOf(2) = 0; groupOf(4) = 0; groupOf(5) = 1");
         Script.run("then the second one, and so on", "read A+T1T1A- = 4; cut(1) = 1; read A+T1A-T1A+T1A- = 7; cut(0) = 0",
                 "cut(1) = 1; cut(2) = 3; cut(3) = 5; cut(4) = INDEX; read A+A-B+B-A+A- = 6; cut(1) = 1; cut(2) = 3; cut(3) = 5");
         Script.run("a cut at step i is one directly before step i", "read A+B+B-A- = 4; cut(1) = 2; groupOf(1) = 0",
@@ -120,6 +124,8 @@ public final class BoundaryCircuitTest {
     }
 
     private static void groupAnswers() {
+        Script.run("a new sequence's groups alone", "read A+B+A-B-A+B+A-B- = 8; cut(2) = 4; read A+A- = 2",
+                "read A+B+C+A-B-C- = 6; groups() = 2; cut(1) = 3; cut(2) = INDEX; groupOf(2) = 0; groupOf(4) = 1; groupOf(5) = 1");
         Script.run("if there is no such cut, or no sequence", "cut(0) = INDEX; cut(-1) = INDEX; read A+A- = 2; cut(0) = 0",
                 "cut(1) = 1; cut(2) = INDEX; cut(-1) = INDEX; cut(16) = INDEX; cut(2147483647) = INDEX",
                 "cut(-2147483648) = INDEX; read A+A-A+A- = 4; cut(3) = 3; cut(4) = INDEX; read A+A- = 2; cut(2) = INDEX");

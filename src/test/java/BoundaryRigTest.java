@@ -142,6 +142,11 @@ public final class BoundaryRigTest {
                 "timer(-1) = INDEX; timer(16) = INDEX; timer(2147483647) = INDEX; timer(-2147483648) = INDEX",
                 "read " + "A+A-".repeat(7) + "T1T2 = 16; timer(15) = 0; timer(16) = INDEX; read A+A- = 2; timer(2) = INDEX");
         Script.run("0 if the step is not a pause", "read A+T9A- = 3; ticks(6); timer(0) = 0; timer(1) = 3; timer(2) = 0");
+        for (int method = 0; method < 3; method++) {
+            Script.run("0 if the step is not a pause, while its commands are on", "setMethod(" + method + "); read A+T1A- = 3",
+                    "ticks(1) = 1; commands(0) = 1; timer(0) = 0; ticks(1); timer(0) = 0; ticks(3) = 1; commands(0) = 2",
+                    "timer(2) = 0; ticks(1); timer(2) = 0");
+        }
         Script.run("the timer of the sixteenth step", "setMethod(2); setStroke(0, 1); read T1" + "A+A-".repeat(7) + "T2 = 16",
                 "ticks(15); active() = 14; timer(0) = 0; timer(15) = 0; ticks(1); timer(15) = 1; ticks(1); timer(15) = 2");
     }

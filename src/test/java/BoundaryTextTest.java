@@ -149,6 +149,10 @@ public final class BoundaryTextTest {
                 "moves(12) = 4; direction(14, 2) = 1; direction(15, 2) = -1; type(65) = 1");
         Script.refuses(title + ", the last one is bad", LONGEST.substring(0, 79) + "*", 1, 79);
         Script.refuses(title + ", ends too early", "(" + "A+".repeat(39) + "A", 1, 80);
+        Script.refuses(title + ", ends behind a T", "(A+B+)(A-B-)".repeat(6) + "C+C-T10T", 1, 80);
+        Script.reads(title + ", the last one is a digit", "(A+B+)(A-B-)".repeat(6) + "C+C-T1T5", 16);
+        Script.reads(title + ", the last one is a second digit", "(A+B+C+)(A-B-C-)".repeat(4) + "A+A-T10T10T10T05", 14);
+        Script.refuses(title + ", the last one is a third digit", "(A+B+)(A-B-)".repeat(6) + "C+C-T105", 1, 79);
         Script.refuses(title + ", of kind 2", "(" + "A+".repeat(39) + ")", 2, 3);
         Script.refuses(title + ", of kind 3", LONGEST.substring(0, 72) + "(A+B+C+)", 3, 80);
         Script.run("initially empty", "clearText() = 0; readSequence() = -1; errorKind() = 1");
@@ -293,6 +297,10 @@ public final class BoundaryTextTest {
     private static void reading() {
         Script.run("which replaces the former one", "read A+T5(B+C+)(A-B-C-) = 4; read D+D- = 2; steps() = 2",
                 "moves(0) = 8; moves(1) = 8; moves(2) = INDEX; pause(1) = 0; timer(2) = INDEX; groups() = 2; cut(1) = 1");
+        Script.run("which replaces the former one, and the one before", "read (A+B+)T5(A-B-)T7C+C- = 6; read D+D- = 2",
+                "read E+F+E-F- = 4; pause(1) = 0; pause(3) = 0; moves(0) = 16; moves(1) = 32; moves(2) = 16; valves(0) = 2");
+        Script.run("nothing stays of a text with an error", "read T9T8(A+B+)T7? = -13; clearText(); read C+D+C-D- = 4",
+                "pause(0) = 0; pause(1) = 0; pause(3) = 0; moves(0) = 4; moves(2) = 4; valves(0) = 2");
         Script.run("and brings the rig to rest", "read A+A- = 2; ticks(4) = 2; read A+A- = 2; time() = 0; events() = 0",
                 "position(0) = 0; isOut(0) = false; cycles() = 0; rightEvents() = 0; active() = 1; commands(0) = 0");
         Script.run("The text is empty then", Script.typed("A+A-"), "readSequence() = 2; clearText() = 0; readSequence() = -1",
