@@ -138,12 +138,14 @@ public final class BoundaryTextTest {
                 "moves(3) = 1; moves(4) = INDEX; moves(-1) = INDEX");
         // Direct: A+ comes with the completion of A-, the last step, and not at once with A's other end.
         Script.run("The step before step 0 is the last one", "setMethod(0); read A+A- = 2; ticks(1) = 1; ticks(3) = 1",
-                "ticks(1); position(0) = 1; commands(0) = 0; ticks(1); position(0) = 0; ticks(1) = 1; eventMove(0) = 1");
+                "ticks(1); position(0) = 1; commands(0) = 0; ticks(1); position(0) = 0; ticks(1) = 1",
+                "eventMove(0) = 1");
     }
 
     private static void lengthOfText() {
         String title = "a buffer of at most 80 characters";
-        Script.run(title, Script.times(78, "type(65)"), "type(65) = 79; type(65) = 80; type(65) = ISE; clearText() = 80");
+        Script.run(title, Script.times(78, "type(65)"), "type(65) = 79; type(65) = 80; type(65) = ISE",
+                "clearText() = 80");
         Script.reads(title, LONGEST, 16);
         Script.run(title + ", all of them are read", Script.typed(LONGEST), "readSequence() = 16; moves(11) = 3",
                 "moves(12) = 4; direction(14, 2) = 1; direction(15, 2) = -1; type(65) = 1");
@@ -161,7 +163,8 @@ public final class BoundaryTextTest {
     private static void codes() {
         String title = "with codes from 32 to 126";
         Script.run(title, "type(32) = 1; type(33) = 2; type(125) = 3; type(126) = 4; type(31) = IAE; type(127) = IAE",
-                "type(128) = IAE; type(160) = IAE; type(255) = IAE; type(65601) = IAE; type(-65) = IAE; clearText() = 4");
+                "type(128) = IAE; type(160) = IAE; type(255) = IAE; type(65601) = IAE; type(-65) = IAE",
+                "clearText() = 4");
     }
 
     private static void firstBadSign() {
@@ -283,7 +286,8 @@ public final class BoundaryTextTest {
     private static void typing() {
         Script.run("Returns the length of the text", "type(65) = 1; type(43) = 2; type(31) = IAE; type(65) = 3");
         String full = Script.times(80, "type(32)");
-        Script.run("IllegalStateException if the text has 80 characters already", full, "type(32) = ISE; type(126) = ISE",
+        Script.run("IllegalStateException if the text has 80 characters already", full, "type(32) = ISE",
+                "type(126) = ISE",
                 "type(65) = ISE; clearText() = 80; type(65) = 1");
         Script.run("of several the one that is listed first: the code before the full text", full, "type(31) = IAE",
                 "type(127) = IAE; type(-2147483648) = IAE; type(2147483647) = IAE; clearText() = 80");
@@ -296,29 +300,36 @@ public final class BoundaryTextTest {
 
     private static void reading() {
         Script.run("which replaces the former one", "read A+T5(B+C+)(A-B-C-) = 4; read D+D- = 2; steps() = 2",
-                "moves(0) = 8; moves(1) = 8; moves(2) = INDEX; pause(1) = 0; timer(2) = INDEX; groups() = 2; cut(1) = 1");
+                "moves(0) = 8; moves(1) = 8; moves(2) = INDEX; pause(1) = 0; timer(2) = INDEX; groups() = 2",
+                "cut(1) = 1");
         Script.run("which replaces the former one, and the one before", "read (A+B+)T5(A-B-)T7C+C- = 6; read D+D- = 2",
-                "read E+F+E-F- = 4; pause(1) = 0; pause(3) = 0; moves(0) = 16; moves(1) = 32; moves(2) = 16; valves(0) = 2");
+                "read E+F+E-F- = 4; pause(1) = 0; pause(3) = 0; moves(0) = 16; moves(1) = 32; moves(2) = 16",
+                "valves(0) = 2");
         Script.run("nothing stays of a text with an error", "read T9T8(A+B+)T7? = -13; clearText(); read C+D+C-D- = 4",
                 "pause(0) = 0; pause(1) = 0; pause(3) = 0; moves(0) = 4; moves(2) = 4; valves(0) = 2");
         Script.run("and brings the rig to rest", "read A+A- = 2; ticks(4) = 2; read A+A- = 2; time() = 0; events() = 0",
                 "position(0) = 0; isOut(0) = false; cycles() = 0; rightEvents() = 0; active() = 1; commands(0) = 0");
-        Script.run("The text is empty then", Script.typed("A+A-"), "readSequence() = 2; clearText() = 0; readSequence() = -1",
+        Script.run("The text is empty then", Script.typed("A+A-"), "readSequence() = 2; clearText() = 0",
+                "readSequence() = -1",
                 "steps() = 2");
         for (String text : new String[] {"A+A-?", "A+A+", "A+", "", "T0", SIXTEEN + "A"}) {
-            String setUp = "setStroke(0, 4); read A+T4B+A-B- = 5; setFault(1, 3, true); ticks(12);" + Script.typed(text);
+            String setUp = "setStroke(0, 4); read A+T4B+A-B- = 5; setFault(1, 3, true); ticks(12);"
+                    + Script.typed(text);
             Script.unchanged("If the text has an error, nothing is changed but the result of errorKind()", setUp,
                     "readSequence()", Looks.ERROR_KIND);
         }
-        Script.run("and the text stays", "read A+A = -4; clearText() = 3; read A+A = -4; type(45) = 4; readSequence() = 2");
+        Script.run("and the text stays", "read A+A = -4; clearText() = 3; read A+A = -4; type(45) = 4",
+                "readSequence() = 2");
     }
 
     private static void kindOfError() {
         Script.run("0 if there was none", "errorKind() = 0; type(63); errorKind() = 0");
-        Script.run("0 if this text had no error", "read A+ = -3; errorKind() = 3; type(65); type(45); readSequence() = 2",
+        Script.run("0 if this text had no error", "read A+ = -3; errorKind() = 3; type(65); type(45)",
+                "readSequence() = 2",
                 "errorKind() = 0");
         Script.run("of the text that was given to readSequence() last", "read ? = -1; errorKind() = 1; clearText()",
-                "errorKind() = 1; read A- = -1; errorKind() = 2; clearText(); read A+ = -3; errorKind() = 3; clearText()",
+                "errorKind() = 1; read A- = -1; errorKind() = 2; clearText(); read A+ = -3; errorKind() = 3",
+                "clearText()",
                 "type(65); rest(); setMethod(0); errorKind() = 3");
     }
 
@@ -328,7 +339,8 @@ public final class BoundaryTextTest {
         Script.run("bit c for cylinder c; 0 for a pause", "read (A+B+C+D+E+F+)T1(A-C-E-)(B-D-F-) = 4; moves(0) = 63",
                 "moves(1) = 0; moves(2) = 21; moves(3) = 42");
         Script.run("0 if the cylinder does not move in this step", "read (A+F+)T1(A-F-) = 3; direction(0, 0) = 1",
-                "direction(0, 1) = 0; direction(0, 4) = 0; direction(0, 5) = 1; direction(1, 0) = 0; direction(1, 5) = 0",
+                "direction(0, 1) = 0; direction(0, 4) = 0; direction(0, 5) = 1; direction(1, 0) = 0",
+                "direction(1, 5) = 0",
                 "direction(2, 5) = -1; direction(2, 4) = 0");
         Script.run("0 if the step is not a pause", "read T60A+A-T1 = 4; pause(0) = 60; pause(1) = 0; pause(2) = 0",
                 "pause(3) = 1");

@@ -7,7 +7,8 @@ import java.util.List;
 final class Looks {
     static final String ERROR_KIND = "errorKind()";
     private static final List<String> ALL = List.of(ERROR_KIND, numbers(), steps(), moves(), cylinders(), faults(),
-            events(), "clearText(); type(66)", "readSequence(); errorKind(); steps(); moves(0); moves(1); fingerprint()",
+            events(), "clearText(); type(66)",
+            "readSequence(); errorKind(); steps(); moves(0); moves(1); fingerprint()",
             settings(), later(), behindRest(), trials());
 
     private Looks() {
