@@ -7,11 +7,14 @@ public final class TrialsAsRunsTest {
         "A+(A-B+)(A+B-)A-", "A+A-C+C-", "T9B+B-A+A-", "A+T60T60A-T60", "(A+B+C+D+E+F+)T7(A-C-E-)(B-D-F-)"};
     private static final int[] TIMES = {0, 1, 2, 5, 11, 23, 64, 129, 130, 131, 255, 256, 257, 700};
 
-    /** Reads a text, sets the strokes apart and the method. */
+    /** The strokes of the first three cylinders. */
+    private static int[] strokes = {3, 5, 1};
+
     private static SequenceBench bench(String text, int method) {
         SequenceBench bench = new SequenceBench();
-        bench.setStroke(1, 5);
-        bench.setStroke(2, 1);
+        for (int c = 0; c < strokes.length; c++) {
+            bench.setStroke(c, strokes[c]);
+        }
         bench.setMethod(method);
         text.chars().forEach(bench::type);
         bench.readSequence();
@@ -30,7 +33,26 @@ public final class TrialsAsRunsTest {
                 compareSuspect(text, method, 5003, 0, 3);
             }
         }
+        comparePeriods();
         Script.end();
+    }
+
+    /**
+     * In A+B+B-A- the same positions and valves come twice in a cycle, with something else active. The strokes
+     * shift the period against the ticks at which suspect() looks for a former state. With six cylinders under
+     * way, only the positions tell two ticks of a stroke apart.
+     */
+    private static void comparePeriods() {
+        for (int a = 1; a <= 5; a++) {
+            for (int b = 1; b <= 5; b++) {
+                strokes = new int[] {a, b, 3};
+                for (int method = 0; method < 3; method++) {
+                    compareSuspect("A+B+B-A-", method, 101, 5, 0);
+                    compareSuspect("A+B+B-A-", method, 103, 5, 0);
+                    compareSuspect("(A+B+C+D+E+F+)(A-B-C-D-E-F-)", method, 107, 0, 4);
+                }
+            }
+        }
     }
 
     private static void compareWorks(String text, int method) {
