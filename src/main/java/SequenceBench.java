@@ -533,7 +533,8 @@ public final class SequenceBench {
 
         /** Takes the fewest groups, and of these divisions the one with the earliest cuts. */
         void divide() {
-            int fewest = MOST_STEPS + 1;
+            // Each step alone would do as a group, since no cylinder moves twice in a step.
+            int fewest = count;
             int first = 0;
             for (int step = 0; step < count; step++) {
                 int needed = groupsNeeded(step, step + count);
@@ -793,7 +794,7 @@ public final class SequenceBench {
             } else if (holds(complete, active)) {
                 active = active + 1 < sequence.count ? active + 1 : -1;
             }
-            if (active >= 0) {
+            if (active >= 0 && active < sequence.count) {
                 switchOn(sequence, active);
             }
         }

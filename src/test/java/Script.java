@@ -160,7 +160,8 @@ final class Script {
         }
     }
 
-    private static String answer(SequenceBench bench, String call) {
+    /** One call, such as "clash(2, 1)", on a bench; an exception is answered as "throws" and its name. */
+    static String answer(SequenceBench bench, String call) {
         String name = call.substring(0, call.indexOf('('));
         String inside = call.substring(call.indexOf('(') + 1, call.lastIndexOf(')')).trim();
         String[] given = inside.isEmpty() ? new String[0] : inside.split("\\s*,\\s*");
